@@ -131,13 +131,21 @@ public final class HeatTest {
         Check.due("two heaters on", without + 3000, x.netHeat(0));
         Check.due("its heater is shed", -500, x.netHeat(1));
         x.addLouvre(0, 1000, -10000, 10000, 70);
+        x.setPower(8000, 0, 0, 0);
         x.setMode(0, 2);
+        x.setMode(1, 2);
         x.setMode(2, 2);
+        x.run(1);
+        x.setTemperature(0, 0);
+        x.setTemperature(1, 10000);
+        Check.due("the heater of node 1", 7500, x.netHeat(1));
+        x.setPower(5500, 0, 0, 0);
+        x.setMode(1, 1);
         x.setMode(3, 2);
         x.run(1);
         x.setTemperature(0, 0);
         x.setTemperature(1, 10000);
-        Check.due("louvre open", without + 2000 + emission(30, 273) - emission(100, 273), x.netHeat(0));
+        Check.due("louvre open", without + 2000 + emission(30, 273) - emission(170, 273), x.netHeat(0));
     }
 
     /** Promise 35. */

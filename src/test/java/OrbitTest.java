@@ -125,6 +125,11 @@ public final class OrbitTest {
         x.run(1);
         Check.due("1000 is just enough", 1, x.heaterState(2));
         Check.due("none left for heater 4", 2, x.heaterState(4));
+        LouvreCraft small = new LouvreCraft();
+        small.addNode(1000, 0, 0, 0, 0);
+        small.addHeater(0, 1, 1000, 1000, 0);
+        small.run(1);
+        Check.due("nothing is less than 1", 2, small.heaterState(0));
         // In the shade the array gives nothing.
         x.setOrbit(100, 0, 100, 0, 0, 0);
         x.setPower(1000000, 0, 0, 0);

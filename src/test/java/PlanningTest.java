@@ -6,6 +6,8 @@ public final class PlanningTest {
     public static void main(String[] args) {
         stepsToViolation();
         forecastsFollowTheRules();
+        forecastsAreRuns();
+        fullCraft();
         extremeAhead();
         leastHeaterPower();
         leastHeaterPowerAtTheEdges();
@@ -56,6 +58,94 @@ public final class PlanningTest {
         Check.due("the load stops, and begins again at 1000", 106, x.stepsToViolation(0, 200));
         Check.due("highest in 100 steps", 15, x.extremeAhead(0, 100, true));
         Check.due("load", 100, x.load(0));
+    }
+
+    private static LouvreCraft built() {
+        LouvreCraft x = new LouvreCraft();
+        x.addNode(100, 20000, 100, 50, 10);
+        x.addNode(200, 10000, 30, 40, 5000);
+        x.addNode(300, -5000, 20, 10, 0);
+        x.link(0, 1, 300);
+        x.link(0, 2, 20);
+        x.setLimits(0, 16000, 21000);
+        x.setLimits(1, 5000, 13000);
+        x.setLimits(2, -6200, 2000);
+        x.addLouvre(1, 500, 0, 20000, 20);
+        x.addLouvre(0, 500, -10000, 20000, 30);
+        x.addHeater(0, 300, 5000, 21000, 1);
+        x.addHeater(1, 400, 10500, 11000, 2);
+        x.addHeater(2, 900, 1000, 3000, 2);
+        x.addHeater(2, 100, 1000, 3000, 7);
+        x.setMode(2, 2);
+        x.setMode(3, 1);
+        x.setOrbit(600, 100, 300, 1300, 30, 20);
+        x.setPower(800, 50, 100000, 14000);
+        x.setStepLength(5);
+        Check.fine(x, 3, "when temp 0 > 20500: louvre 0 hold; when used > 600: load 2 = 70; load 1 = 4000 + phase * 3;");
+        x.run(10);
+        return x;
+    }
+
+    /** What is forecast comes true when the steps are carried out. */
+    static void forecastsAreRuns() {
+        int[] first = new int[3];
+        int[] hottest = {-200000, -200000, -200000};
+        int[] coldest = {200000, 200000, 200000};
+        LouvreCraft x = built();
+        LouvreCraft y = built();
+        for (int step = 1; step <= 150; step++) {
+            y.resetRecords();
+            y.run(1);
+            for (int node = 0; node < 3; node++) {
+                first[node] = first[node] == 0 && y.violations(node) > 0 ? step : first[node];
+                hottest[node] = Math.max(hottest[node], y.temperature(node));
+                coldest[node] = Math.min(coldest[node], y.temperature(node));
+            }
+        }
+        int any = 1000;
+        for (int node = 0; node < 3; node++) {
+            Check.due("hottest of " + node, hottest[node], x.extremeAhead(node, 150, true));
+            Check.due("coldest of " + node, coldest[node], x.extremeAhead(node, 150, false));
+            Check.due("first of " + node, first[node] == 0 ? -1 : first[node], x.stepsToViolation(node, 150));
+            any = first[node] == 0 ? any : Math.min(any, first[node]);
+        }
+        Check.due("there is a violation ahead", true, any < 1000);
+        Check.due("first of any", any, x.stepsToViolation(-1, 150));
+    }
+
+    /** With as many parts as there can be every call still answers. */
+    static void fullCraft() {
+        LouvreCraft x = new LouvreCraft();
+        for (int node = 0; node < 12; node++) {
+            x.addNode(1000, 1000 * node, 10, 10, 100);
+        }
+        for (int a = 0; a < 12; a++) {
+            x.link(a, (a + 1) % 12, 100);
+            x.link(a, (a + 3) % 12, 50);
+        }
+        for (int part = 0; part < 8; part++) {
+            x.addHeater(part, 100, 100000, 100000, part % 3);
+            x.addLouvre(part, 10, 0, 10000, 100);
+        }
+        Check.due("links", 24, x.linkCount());
+        Check.due("louvres", 6, x.louvreCount());
+        Check.due("heaters", 8, x.heaterCount());
+        Check.fine(x, 12, "load 0=1;load 1=2;load 2=3;load 3=4;load 4=5;load 5=6;load 6=7;load 7=8;load 8=9;load 9=10;load 10=11;load 11=12;");
+        Check.due("save", true, x.save(0));
+        Check.due("no violation", -1, x.stepsToViolation(-1, 10));
+        Check.due("least power", 0, x.leastHeaterPower(7, 10));
+        Check.due("least area", 0, x.leastLouvreArea(5, 10));
+        Check.due("settled", 1, x.settlingOrbit(100000, 1));
+        int ahead = x.extremeAhead(11, 10, false);
+        x.run(10);
+        Check.due("as forecast", ahead, x.temperature(11));
+        Check.due("load", 12, x.load(11));
+        Check.due("no violators", 0, x.resetRecords());
+        Check.due("restore", true, x.restore(0));
+        Check.due("temperature", 11000, x.temperature(11));
+        Check.due("link", 50, x.conductance(11, 2));
+        x.run(10);
+        Check.due("as forecast again", ahead, x.temperature(11));
     }
 
     /** Promise 46. */
@@ -129,6 +219,11 @@ public final class PlanningTest {
         x.setPower(10000, 0, 0, 0);
         x.setLimits(0, -1000, 100);
         Check.due("the least one is tried first", 0, x.leastHeaterPower(0, 100));
+        // With a load of 1000 the 10th step ends at 100, the 11th above it, whatever the power.
+        x.setLoad(0, 1000);
+        Check.due("10 steps", 0, x.leastHeaterPower(0, 10));
+        Check.due("11 steps", -1, x.leastHeaterPower(0, 11));
+        x.setLoad(0, 0);
         // Power in use before the first step is that of the power which is tried.
         x.addHeater(0, 0, 200000, 200000, 0);
         x.run(1);
@@ -165,6 +260,14 @@ public final class PlanningTest {
         x.addNode(1000, 0, 0, 0, 0);
         x.setLimits(1, 1, 5);
         Check.due("any other node", -1, x.leastLouvreArea(0, 1));
+        // An area of 100 emits some 30 in each step from the second on, against a load of 20.
+        LouvreCraft y = new LouvreCraft();
+        y.addNode(1000, 0, 0, 0, 2000);
+        y.setLimits(0, -10000, 60);
+        y.addLouvre(0, 0, -100000, 100000, 500);
+        Check.due("60 after 3 steps", 0, y.leastLouvreArea(0, 3));
+        Check.due("80 after 4 steps", 100, y.leastLouvreArea(0, 4));
+        Check.due("the opening stays", 0, y.opening(0));
     }
 
     /** Promise 49: 0.1 of the difference is left after an orbit of one step. */
@@ -208,6 +311,12 @@ public final class PlanningTest {
         Check.due("most * 200 is 4000", 1, x.settlingOrbit(0, 20));
         x.setOrbit(2001, 0, 0, 0, 0, 0);
         Check.due("most * 201 is 4020", RANGE, x.settlingOrbit(0, 20));
+        x.setOrbit(10, 0, 0, 0, 0, 0);
+        Check.due("20 orbits of a step", 1, x.settlingOrbit(0, 20));
+        Check.due("21 orbits of a step", RANGE, x.settlingOrbit(0, 21));
+        x.setStepLength(1);
+        x.setOrbit(4001, 0, 0, 0, 0, 0);
+        Check.due("4001 steps of one orbit", RANGE, x.settlingOrbit(0, 1));
         x.setOrbit(100000, 0, 0, 0, 0, 0);
         x.setStepLength(25);
         Check.due("4000 steps of one orbit", 1, x.settlingOrbit(100000, 1));

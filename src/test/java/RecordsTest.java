@@ -122,6 +122,11 @@ public final class RecordsTest {
         Check.due("violator(12)", RANGE, x.violator(12));
         x.run(10);
         Check.due("no node twice", 12, x.violatorCount());
+        Check.due("all are removed", 12, x.resetRecords());
+        Check.due("the last one too", -1, x.firstViolation(11));
+        x.run(1);
+        Check.due("nodes of the same step by number", 0, x.violator(0));
+        Check.due("nodes of the same step by number", 11, x.violator(11));
     }
 
     /** Promise 43. */

@@ -153,6 +153,14 @@ public final class RulesTest {
         }
         Check.fine(x, 1, whole);
         Check.error(x, 1, 0, ";");
+        Check.error(x, 1, 0, repeat(";", 500));
+        Check.error(x, 1, 0, repeat("\0", 3));
+        Check.error(x, 1, 12, "heater 0 on;\0");
+        Check.error(x, 1, 9, "heater 0 onz;");
+        Check.error(x, 1, 9, "heater 0 aon;");
+        Check.error(x, 1, 11, "heater 0 on{;");
+        Check.error(x, 1, 11, "heater 0 on`;");
+        words(x);
         Check.error(x, 1, 0, "Heater 0 on;");
         Check.error(x, 1, 0, "\theater 0 on;");
         Check.error(x, 1, 8, "heater 0\ron;");
@@ -192,6 +200,27 @@ public final class RulesTest {
         Check.error(x, 1, 9, "load 0 = not 1;");
         Check.error(x, 1, 5, "when <: heater 0 on;");
         Check.error(x, 1, 11, "load 0 = 1 1000000;");
+    }
+
+    /** A word with another first or last letter, or with one more or less, is no word. */
+    private static void words(LouvreCraft x) {
+        String all = "when not temp 0 < open 0 and state 2 > sun or phase = charge and not used = 1 : heater 0 on ; "
+                + "heater 0 off ; heater 0 auto ; louvre 0 hold ; louvre 0 free ; load 0 = 1 ;";
+        Check.fine(x, 6, all);
+        int start = 0;
+        for (String token : all.split(" ")) {
+            if (Character.isLetter(token.charAt(0))) {
+                String before = all.substring(0, start);
+                String after = all.substring(start + token.length());
+                Check.error(x, 1, start, before + "q" + token.substring(1) + after);
+                Check.error(x, 1, start, before + token.substring(0, token.length() - 1) + "q" + after);
+                Check.error(x, 1, start, before + token + "q" + after);
+                Check.error(x, 1, start, before + token.substring(1) + after);
+                Check.error(x, 1, start, before + token.substring(0, token.length() - 1) + after);
+                Check.error(x, 1, start, before + token.toUpperCase() + after);
+            }
+            start += token.length() + 1;
+        }
     }
 
     /** Error 2: numbers that are too great, and parts that are not there. */
@@ -246,6 +275,11 @@ public final class RulesTest {
         Check.fine(x, 1, "load 0 = " + repeat("-(", 10) + "9" + repeat(")", 10) + ";");
         Check.error(x, 4, 29, "load 0 = " + repeat("-(", 10) + "-9" + repeat(")", 10) + ";");
         Check.error(x, 4, 29, "load 0 = " + repeat("-(", 10) + "(9" + repeat(")", 11) + ";");
+        // Each of the two sums of a comparison has levels of its own.
+        String twenty = repeat("(", 20) + "7" + repeat(")", 20);
+        Check.fine(x, 1, "when " + twenty + "=" + twenty + "and" + twenty + "=" + twenty + ":load 0=1;");
+        Check.error(x, 4, 25, "when (" + twenty + ")=" + twenty + ":load 0=1;");
+        Check.error(x, 4, 67, "when " + twenty + "=(" + twenty + "):load 0=1;");
         // A sign between two factors is no level, and levels end with their factors.
         Check.fine(x, 1, "load 0 = " + repeat("(", 20) + "7 - 3" + repeat(")", 20) + " - " + repeat("-", 20) + "1;");
         Check.error(x, 1, 30, "load 0 = " + repeat("(", 20) + "7(" + repeat(")", 20) + ";");
@@ -364,6 +398,14 @@ public final class RulesTest {
         holds(x, false, "1 = 2");
         holds(x, true, "2 = 2");
         holds(x, false, "not 1 < 2");
+        holds(x, false, "not 3 > 2");
+        holds(x, false, "not 2 = 2");
+        holds(x, true, "not 2 = 3");
+        holds(x, true, repeat("1=1and", 70) + "1=1");
+        holds(x, false, repeat("1=1and", 70) + "1=2");
+        holds(x, false, repeat("1=2or", 80) + "1=2");
+        holds(x, true, repeat("1=2or", 80) + "1=1");
+        holds(x, true, repeat("1=2and1=1or", 40) + "1=1");
         holds(x, true, "not 2 < 2");
         holds(x, true, "not 1 + 1 = 3");
         String[] comparisons = {"1 = 0", "1 = 1"};

@@ -50,6 +50,8 @@ public final class SavedStatesTest {
         Check.fine(x, 2, "louvre 0 free; heater 1 off;");
         x.run(50);
         x.resetRecords();
+        x.setLimits(2, 199999, 200000);
+        x.run(1);
         x.addNode(5, 5, 5, 5, 5);
         x.addLouvre(3, 5, 5, 6, 5);
         x.addHeater(3, 5, 5, 6, 9);
@@ -169,8 +171,10 @@ public final class SavedStatesTest {
         x.addHeater(0, 100, 100000, 100000, 3);
         x.setMode(0, 1);
         x.setPower(100, 0, 0, 0);
+        x.run(1);
         Check.fine(x, 1, "louvre 0 hold;");
         x.run(1);
+        Check.due("open", 100, x.opening(0));
         Check.fine(x, 0, "");
         x.restore(0);
         Check.due("nodes", 1, x.nodeCount());
