@@ -10,6 +10,7 @@ public final class OrbitTest {
         battery();
         setStepLength();
         run();
+        endOfTime();
         timeAndPhase();
         usedPower();
         Check.finish();
@@ -204,6 +205,26 @@ public final class OrbitTest {
         x.setLoad(0, 1000000);
         x.run(10);
         Check.due("not above 200000", 200000, x.temperature(0));
+    }
+
+    /** More calls than the document promises for, as 512 of them do not get to the greatest time. */
+    static void endOfTime() {
+        LouvreCraft x = new LouvreCraft();
+        x.setStepLength(60);
+        for (int call = 0; call < 1666; call++) {
+            x.run(1000);
+        }
+        Check.due("time", 99960000, x.time());
+        Check.due("667 minutes are too many", RANGE, x.run(667));
+        Check.due("666 are not", 0, x.run(666));
+        x.setStepLength(41);
+        Check.due("41 seconds are too many", RANGE, x.run(1));
+        x.setStepLength(40);
+        Check.due("40 are not", 0, x.run(1));
+        Check.due("the end", 100000000, x.time());
+        x.setStepLength(1);
+        Check.due("no second more", RANGE, x.run(1));
+        Check.due("forecasts go on", -1, x.stepsToViolation(-1, 2000));
     }
 
     /** Promises 24 and 25. */

@@ -4,6 +4,7 @@ public final class SavedStatesTest {
         slots();
         everythingComesBack();
         partsThatCameLater();
+        wishes();
         Check.finish();
     }
 
@@ -156,6 +157,28 @@ public final class SavedStatesTest {
         same("restored and gone on", answers(other), answers(x));
         x.restore(1);
         same("restored again", before, answers(x));
+    }
+
+    /** A thermostat goes on with the wish that it had. */
+    static void wishes() {
+        LouvreCraft x = new LouvreCraft();
+        x.addNode(100000, 0, 0, 0, 0);
+        x.addHeater(0, 100, 1000, 2000, 0);
+        x.setPower(100, 0, 0, 0);
+        x.run(1);
+        x.setTemperature(0, 1500);
+        x.save(0);
+        x.setTemperature(0, 3000);
+        x.run(1);
+        Check.due("no wish", 0, x.heaterState(0));
+        x.setTemperature(0, 1500);
+        x.save(1);
+        x.restore(0);
+        x.run(1);
+        Check.due("the wish is back", 1, x.heaterState(0));
+        x.restore(1);
+        x.run(1);
+        Check.due("and gone again", 0, x.heaterState(0));
     }
 
     /** A part that is added where a part was before has nothing of it. */
