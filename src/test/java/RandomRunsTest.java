@@ -6,12 +6,14 @@ import java.util.List;
 /**
  * Runs of 512 random calls, always the same ones, on LouvreCraft and on PlainModel, whose answers are to be the same.
  * After some calls everything that can be asked is asked, so that a change which no answer showed comes to light.
+ * Each fifth run is a wild one: a craft with all parts that there can be, and arguments at the ends of their ranges.
  */
 public final class RandomRunsTest {
     private static final String WORDS = "when or and not temp open state sun phase charge used heater louvre load on off auto hold free";
     private static final String SYMBOLS = "< > = + - * / ( ) : ; 0 1 2 3 7 999999 1000000 ? A whens";
 
     private long seed;
+    private boolean isWild;
     private LouvreCraft craft;
     private PlainModel model;
     private final List<String> calls = new ArrayList<>();
@@ -39,7 +41,12 @@ public final class RandomRunsTest {
         next(2);
         craft = new LouvreCraft();
         model = new PlainModel();
-        build();
+        isWild = number % 5 == 0;
+        if (isWild) {
+            buildFull();
+        } else {
+            build();
+        }
         List<Method> methods = new ArrayList<>();
         for (Method method : LouvreCraft.class.getDeclaredMethods()) {
             if (java.lang.reflect.Modifier.isPublic(method.getModifiers())) {
@@ -81,6 +88,9 @@ public final class RandomRunsTest {
 
     /** Mostly an argument that is allowed, else an edge or anything. */
     private int argument(String name, int place) {
+        if (isWild) {
+            return wildArgument(name, place);
+        }
         if (next(30) == 0) {
             int[] odd = {Integer.MIN_VALUE, Integer.MAX_VALUE, -1, 0, 1, 2, 12, 24, 60, 61, 200, 201, 1000, 1001, 2000, 2001,
                 200000, 200001, -200000, -200001, 100000, 100001, 10000, 10001, 1000000, 1000001, 1000000000, 1000000001};
@@ -132,6 +142,99 @@ public final class RandomRunsTest {
             default:
                 return between(-1, 6);
         }
+    }
+
+    /** The least and the greatest argument of each place, two by two. */
+    private static int[] ranges(String name) {
+        switch (name) {
+            case "addNode":
+                return new int[] {1, 100000, -200000, 200000, 0, 10000, 0, 10000, 0, 1000000};
+            case "addLouvre":
+                return new int[] {0, 11, 0, 10000, -200000, 0, 1, 200000, 1, 1000};
+            case "addHeater":
+                return new int[] {0, 11, 0, 100000, -200000, 0, 0, 200000, 0, 9};
+            case "setLimits":
+                return new int[] {0, 11, -200000, 0, 0, 200000};
+            case "setTemperature":
+                return new int[] {0, 11, -200000, 200000};
+            case "setLoad":
+                return new int[] {0, 11, 0, 1000000};
+            case "link":
+                return new int[] {0, 11, 0, 11, 0, 100000};
+            case "setOrbit":
+                return new int[] {1, 100000, 0, 1, 1, 1, 0, 10000, 0, 100, 0, 10000};
+            case "setPower":
+                return new int[] {0, 1000000, 0, 1000000, 0, 1000000000, 0, 0};
+            case "setStepLength":
+                return new int[] {1, 60};
+            case "run":
+                return new int[] {1, 1000};
+            case "extremeAhead":
+            case "stepsToViolation":
+                return new int[] {0, 11, 1, 2000};
+            case "leastHeaterPower":
+                return new int[] {0, 7, 1, 200};
+            case "leastLouvreArea":
+                return new int[] {0, 5, 1, 200};
+            case "settlingOrbit":
+                return new int[] {0, 100000, 1, 20};
+            case "appendText":
+                return new int[] {Integer.MIN_VALUE, Integer.MAX_VALUE};
+            case "truncateText":
+                return new int[] {0, 500};
+            case "setMode":
+                return new int[] {0, 7, 0, 2};
+            case "energy":
+                return new int[] {0, 2};
+            case "save":
+            case "restore":
+                return new int[] {0, 1};
+            default:
+                return new int[] {0, 11, 0, 11};
+        }
+    }
+
+    /** Anything within the range, or its ends, or seldom what is next to them. */
+    private int wildArgument(String name, int place) {
+        int[] ranges = ranges(name);
+        int least = ranges[2 * place];
+        int most = ranges[2 * place + 1];
+        switch (next(25)) {
+            case 0:
+                return least - 1;
+            case 1:
+                return most + 1;
+            case 2:
+            case 3:
+            case 4:
+            case 5:
+                return least;
+            case 6:
+            case 7:
+            case 8:
+            case 9:
+                return most;
+            default:
+                return (int) (least + (seed >>> 20) % (1L + most - least));
+        }
+    }
+
+    private void buildFull() throws Exception {
+        int nodes = between(9, 12);
+        for (int i = 0; i < nodes; i++) {
+            call("addNode", wildArgument("addNode", 0), wildArgument("addNode", 1), wildArgument("addNode", 2),
+                    wildArgument("addNode", 3), wildArgument("addNode", 4));
+        }
+        for (int i = 0; i < 26; i++) {
+            call("link", next(12), next(12), wildArgument("link", 2));
+        }
+        for (int i = 0; i < 9; i++) {
+            call("addHeater", next(nodes), wildArgument("addHeater", 1), wildArgument("addHeater", 2), wildArgument("addHeater", 3), next(10));
+            call("addLouvre", next(nodes), wildArgument("addLouvre", 1), wildArgument("addLouvre", 2), wildArgument("addLouvre", 3),
+                    wildArgument("addLouvre", 4));
+        }
+        call("setPower", wildArgument("setPower", 0), wildArgument("setPower", 1), 1000000000, between(0, 1000000000));
+        call("setOrbit", between(2000, 100000), between(0, 1000), between(1000, 2000), 1361, 30, 240);
     }
 
     /** Asks for the least power or area with limits so near that some powers or areas are not enough. */
